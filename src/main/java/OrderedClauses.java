@@ -556,7 +556,7 @@ public final class OrderedClauses {
         private int nextChoice() {
             boolean firstOfAll = setting > 0 && (steps + 1) % setting == 0;
             int chosen = NONE;
-            int fewest = 2 * ATOMS + 1;
+            int fewest = ATOMS + 1;
             for (int clause = 0; clause < clauses; clause++) {
                 int size = Integer.bitCount(at(literals, clause));
                 if (at(status, clause) == OPEN && size < fewest) {

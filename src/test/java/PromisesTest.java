@@ -40,6 +40,7 @@ public final class PromisesTest {
         share();
         count();
         undo();
+        undoOfEach();
         history();
         type();
         clearText();
@@ -606,10 +607,6 @@ public final class PromisesTest {
         x.tell(bits("b-c"));
         x.rank(0, 5);
         x.set(2);
-        long before = all(x);
-        x.undo();
-        x.set(2);
-        DUE.same("the same again", all(x), before);
         x.tell(bits("-c-c"));
         x.tell(bits("a-a"));
         x.run(40);
@@ -626,6 +623,52 @@ public final class PromisesTest {
         DUE.same("within is restored", x.count(7), 0);
         DUE.same("setting is restored", x.count(5), 2);
         DUE.same("undo of nothing more", x.undo(), IMPOSSIBLE);
+    }
+
+    private static void undoOfEach() {
+        OrderedClauses x = typed(told("ab-c -ac c-d abd e"), "f;-e;a-a;");
+        x.rank(0, 3);
+        x.run(5);
+        DUE.holds("there are resolvents", x.count(0) > 5);
+        restored(x, "tell", () -> x.tell(bits("-a")));
+        restored(x, "tell of what holds always", () -> x.tell(bits("a-a")));
+        restored(x, "tell of what has another within", () -> x.tell(bits("ef")));
+        restored(x, "tell of the empty clause", () -> x.tell(0));
+        restored(x, "rank", () -> x.rank(2, 5));
+        restored(x, "set", () -> x.set(9));
+        restored(x, "step", x::step);
+        restored(x, "run", () -> x.run(40));
+        restored(x, "empty", x::empty);
+        restored(x, "play", x::play);
+    }
+
+    /** Undoes one change, and then one with others behind it that use the same numbers again. */
+    private static void restored(OrderedClauses x, String what, Call change) {
+        fourStates(x);
+        long before = all(x);
+        DUE.holds(what, change.answer() > INVALID);
+        x.undo();
+        fourStates(x);
+        DUE.same("all behind undo of " + what, all(x), before);
+        change.answer();
+        x.empty();
+        x.play();
+        x.run(40);
+        for (int left = 3; left >= 0; left--) {
+            DUE.same("states left", x.undo(), left);
+        }
+        x.play();
+        x.empty();
+        x.undo();
+        x.undo();
+        fourStates(x);
+        DUE.same("all behind four undone of " + what, all(x), before);
+    }
+
+    private static void fourStates(OrderedClauses x) {
+        for (int i = 0; i < 4; i++) {
+            x.set(x.count(5));
+        }
     }
 
     private static void history() {
@@ -688,6 +731,7 @@ public final class PromisesTest {
         faultIs("a;-f;ab-c;", MISSING, MISSING);
         faultIs("aa-a;", MISSING, MISSING);
         faultIs("a", 0, 1);
+        faultIs(";g;", 1, 0);
         faultIs("ab;c", 3, 1);
         faultIs("ab;-", 3, 1);
         faultIs("-", 0, 1);

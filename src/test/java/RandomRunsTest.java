@@ -106,9 +106,22 @@ public final class RandomRunsTest {
             due.same(where + "set(" + value + ")", x.set(value), naive.set(value));
         } else if (kind < 93) {
             due.same(where + "empty()", x.empty(), naive.empty());
+            otherClausesAndUndo();
         } else {
             due.same(where + "undo()", x.undo(), naive.undo());
         }
+    }
+
+    private void otherClausesAndUndo() {
+        int changes = random.nextInt(4);
+        for (int i = 0; i < changes; i++) {
+            int literals = literals();
+            seen(0, "tell(" + literals + ")", x.tell(literals), naive.tell(literals));
+        }
+        while (random.nextInt(4) != 0) {
+            due.same(where + "undo()", x.undo(), naive.undo());
+        }
+        everything();
     }
 
     private void seen(int change, String call, int got, int want) {
