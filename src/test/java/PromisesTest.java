@@ -178,6 +178,11 @@ public final class PromisesTest {
         DUE.same("run", x.run(40), 3);
         DUE.same("all done", x.count(2), 3);
         x.tell(bits("cd"));
+        long before = all(x);
+        x.rank(0, 3);
+        DUE.same("undo of rank", x.undo(), 3);
+        x.set(4);
+        DUE.same("all behind undo of rank", all(x), before);
         DUE.same("greatest of ab", x.clauseOf(0, 2), 2);
         DUE.same("rank", x.rank(0, 4), 0);
         DUE.same("a has it", x.count(10), 4);
@@ -626,7 +631,7 @@ public final class PromisesTest {
     }
 
     private static void undoOfEach() {
-        OrderedClauses x = typed(told("ab-c -ac c-d abd e"), "f;-e;a-a;");
+        OrderedClauses x = typed(told("ab-c -ac c-d abd e"), "f;-fe;a-a;-ed;-dc;-cb;-ba;");
         x.rank(0, 3);
         x.run(5);
         DUE.holds("there are resolvents", x.count(0) > 5);
