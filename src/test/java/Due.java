@@ -1,14 +1,20 @@
 /** Compares answers with those that are due, and counts. */
 final class Due {
+    private String sentence = "";
     private int compared = 0;
     private int wrong = 0;
+
+    /** The sentence of the document that the next answers stand for: it is told with each wrong one. */
+    void about(String sentence) {
+        this.sentence = "[" + sentence + "] ";
+    }
 
     void same(String what, long got, long want) {
         compared++;
         if (got != want) {
             wrong++;
             if (wrong <= 50) {
-                System.out.println(what + " answered " + got + ", due is " + want);
+                System.out.println(sentence + what + " answered " + got + ", due is " + want);
             }
         }
     }

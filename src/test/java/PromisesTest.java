@@ -1,20 +1,5 @@
 /** Each promise of the document by itself: ordinary arguments, the edges that it names, and wrong ones. */
-public final class PromisesTest {
-    private static final int INVALID = OrderedClauses.INVALID_ARGUMENT;
-    private static final int IMPOSSIBLE = OrderedClauses.NOT_POSSIBLE;
-    private static final int LIMIT = OrderedClauses.LIMIT_REACHED;
-    private static final int MISSING = OrderedClauses.NOT_FOUND;
-    private static final int LEAST = Integer.MIN_VALUE;
-    private static final int GREATEST = Integer.MAX_VALUE;
-
-    /** 40 clauses; the first two have greatest literals that hold, the third one those that do not. */
-    private static final String FORTY =
-        "abc -a-bc -a-b-c ab-c a-bc a-b-c -abc -ab-c"
-        + " abd ab-d a-bd a-b-d -abd -ab-d -a-bd -a-b-d abe ab-e a-be a-b-e -abe -ab-e -a-be -a-b-e"
-        + " abf ab-f a-bf a-b-f -abf -ab-f -a-bf -a-b-f acd ac-d a-cd a-c-d -acd -ac-d -a-cd -a-c-d";
-
-    private static final Due DUE = new Due();
-
+public final class PromisesTest extends Bench {
     public static void main(String[] args) {
         newObject();
         tell();
@@ -48,41 +33,6 @@ public final class PromisesTest {
         play();
         playErrors();
         DUE.close("PromisesTest");
-    }
-
-    private static int bits(String clause) {
-        int bits = 0;
-        for (int i = 0; i < clause.length(); i++) {
-            if (clause.charAt(i) != '-') {
-                boolean sign = i > 0 && clause.charAt(i - 1) == '-';
-                bits |= 1 << (2 * (clause.charAt(i) - 'a') + (sign ? 1 : 0));
-            }
-        }
-        return bits;
-    }
-
-    /** A store that was told the clauses, which are all new to it. */
-    private static OrderedClauses told(String clauses) {
-        OrderedClauses x = new OrderedClauses();
-        int number = 0;
-        for (String clause : clauses.split(" ")) {
-            DUE.same("tell " + clause, x.tell(bits(clause)), number);
-            number++;
-        }
-        return x;
-    }
-
-    private static OrderedClauses typed(OrderedClauses x, String text) {
-        x.clearText();
-        for (int i = 0; i < text.length(); i++) {
-            DUE.same("type " + text.charAt(i), x.type(text.charAt(i)), i + 1);
-        }
-        return x;
-    }
-
-    private static void clauseIs(OrderedClauses x, int number, String clause, int status) {
-        DUE.same("literals of " + number, x.clauseOf(number, 0), bits(clause));
-        DUE.same("status of " + number, x.clauseOf(number, 1), status);
     }
 
     /** All that can be asked of an object, as one number: the same before and behind a refused call. */
