@@ -73,4 +73,38 @@ abstract class Bench {
         DUE.same("literals of " + number, x.clauseOf(number, 0), bits(clause));
         DUE.same("status of " + number, x.clauseOf(number, 1), status);
     }
+
+    // ---- states that several tests start from
+
+    /** Open, done and dropped clauses, resolvents, other ranks and setting, all counts, four states and a text. */
+    static OrderedClauses bitOfEverything() {
+        OrderedClauses x = told("ab-c -ac c-d abd e");
+        x.rank(0, 3);
+        x.tell(bits("a-a"));
+        x.tell(bits("ef"));
+        x.run(5);
+        x.set(3);
+        x.tell(bits("ab"));
+        return typed(x, "ab;-c-d;");
+    }
+
+    static OrderedClauses fullStoreAndText() {
+        return typed(full(), "def;".repeat(15));
+    }
+
+    static OrderedClauses full() {
+        return told(FORTY);
+    }
+
+    static OrderedClauses fortiethIsEmpty() {
+        OrderedClauses x = told(without(1, FORTY));
+        DUE.same("the empty clause", x.tell(0), 39);
+        return x;
+    }
+
+    static OrderedClauses refuted() {
+        OrderedClauses x = told("a -a");
+        DUE.same("run", x.run(2), 2);
+        return x;
+    }
 }

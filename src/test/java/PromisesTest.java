@@ -1,3 +1,5 @@
+import java.util.List;
+
 /** Each promise of the document by itself: ordinary arguments, the edges that it names, and wrong ones. */
 public final class PromisesTest extends Bench {
     public static void main(String[] args) {
@@ -8,12 +10,17 @@ public final class PromisesTest extends Bench {
         set();
         stepChoice();
         stepResolvents();
+        stepGoesOn();
+        settingthStepsFarOn();
         stepEnds();
         stepErrors();
         run();
         empty();
         clauseOf();
         clauseOfLess();
+        clauseOfDropped();
+        clauseOfKeepsParents();
+        depthOfTwoResolvents();
         tree();
         widest();
         refutation();
@@ -35,32 +42,23 @@ public final class PromisesTest extends Bench {
         DUE.close("PromisesTest");
     }
 
-    /** All that can be asked of an object, as one number: the same before and behind a refused call. */
-    private static long all(OrderedClauses x) {
-        long sum = x.refutation();
-        for (int what = 0; what < 16; what++) {
-            sum = 31 * sum + x.count(what);
-        }
-        for (int clause = 0; clause < 40; clause++) {
-            for (int what = 0; what <= 8; what++) {
-                sum = 31 * sum + x.clauseOf(clause, what);
-            }
-            sum = 31 * sum + x.tree(clause) + x.widest(clause);
-        }
-        for (int values = 0; values < 64; values++) {
-            sum = 31 * sum + x.model(values) + x.broken(values);
-        }
-        return 31 * (31 * (31 * sum + x.core()) + x.fault(0)) + x.fault(1);
-    }
-
     private interface Call {
         long answer();
     }
 
+    private static long counts(OrderedClauses x) {
+        long sum = 0;
+        for (int what = 0; what < 16; what++) {
+            sum = 31 * sum + x.count(what);
+        }
+        return sum;
+    }
+
+    /** That nothing but the counts changes either stands in RefusalsTest. */
     private static void refused(OrderedClauses x, String what, Call call, int error) {
-        long before = all(x);
+        long before = counts(x);
         DUE.same(what, call.answer(), error);
-        DUE.same("all behind " + what, all(x), before);
+        DUE.same("counts behind " + what, counts(x), before);
     }
 
     private static void newObject() {
@@ -128,11 +126,10 @@ public final class PromisesTest extends Bench {
         DUE.same("run", x.run(40), 3);
         DUE.same("all done", x.count(2), 3);
         x.tell(bits("cd"));
-        long before = all(x);
         x.rank(0, 3);
         DUE.same("undo of rank", x.undo(), 3);
-        x.set(4);
-        DUE.same("all behind undo of rank", all(x), before);
+        DUE.same("ranks are restored", x.count(10) * 10 + x.count(13), 3);
+        DUE.same("done ones are restored", x.count(2), 3);
         DUE.same("greatest of ab", x.clauseOf(0, 2), 2);
         DUE.same("rank", x.rank(0, 4), 0);
         DUE.same("a has it", x.count(10), 4);
@@ -228,6 +225,30 @@ public final class PromisesTest extends Bench {
         clauseIs(w, 3, "c", 0);
         DUE.same("made by b, by its new rank", w.clauseOf(3, 5), 1);
         DUE.same("the dropped one is no partner", w.clauseOf(1, 1), 2);
+    }
+
+    private static void stepGoesOn() {
+        OrderedClauses x = told("-af cf df ef bc ab-f");
+        x.set(1);
+        DUE.same("ahead of it", x.run(5), 5);
+        DUE.same("no resolvents so far", x.count(0) + x.count(6) + x.count(7), 6);
+        DUE.same("four partners", x.step(), 5);
+        DUE.same("the first resolvent holds always", x.count(6), 1);
+        DUE.same("the second one has another within", x.count(7), 1);
+        clauseIs(x, 6, "abd", 0);
+        clauseIs(x, 7, "abe", 0);
+        DUE.same("no more", x.count(0), 8);
+    }
+
+    private static void settingthStepsFarOn() {
+        OrderedClauses x = told("abc de");
+        x.set(9);
+        for (int steps = 0; steps < 200; steps += 2) {
+            int first = steps % 9 == 8 ? 0 : 1;
+            DUE.same("step " + (steps + 1), x.step(), first);
+            DUE.same("step " + (steps + 2), x.step(), 1 - first);
+            DUE.same("both are open again", x.rank(5, 5), 5);
+        }
     }
 
     private static void stepEnds() {
@@ -375,6 +396,42 @@ public final class PromisesTest extends Bench {
         DUE.same("the shared one does not matter", y.clauseOf(0, 7) * 100 + y.clauseOf(1, 7) * 10 + y.clauseOf(2, 7), 102);
     }
 
+    private static void clauseOfDropped() {
+        OrderedClauses x = told("ac b-c");
+        x.run(2);
+        DUE.same("one that drops the resolvent", x.tell(bits("a")), 3);
+        int[] wanted = {bits("ab"), 2, 2, 0, 1, 2, 2, 1, 1};
+        for (int what = 0; what <= 8; what++) {
+            DUE.same("of a dropped one " + what, x.clauseOf(2, what), wanted[what]);
+        }
+        DUE.same("its tree", x.tree(2), 7);
+        DUE.same("widest", x.widest(2), 2);
+    }
+
+    private static void clauseOfKeepsParents() {
+        OrderedClauses x = told("-ac b-c");
+        x.run(2);
+        x.rank(0, 5);
+        DUE.same("greatest by new ranks", x.clauseOf(0, 2), 1);
+        DUE.same("the resolvent's, too", x.clauseOf(2, 2), 1);
+        DUE.same("but the parents stay", x.clauseOf(2, 3) * 10 + x.clauseOf(2, 4), 1);
+        DUE.same("and the atom by which it was made", x.clauseOf(2, 5), 2);
+    }
+
+    private static void depthOfTwoResolvents() {
+        OrderedClauses x = told("ac a-c -ae -ad-e -a-d");
+        x.run(40);
+        int end = x.refutation();
+        DUE.same("of the one parent", x.clauseOf(x.clauseOf(end, 3), 8), 1);
+        DUE.same("of the other one", x.clauseOf(x.clauseOf(end, 4), 8), 2);
+        DUE.same("1 more than the greater one", x.clauseOf(end, 8), 3);
+        DUE.same("all that were told are in its tree", x.tree(end) & 31, 31);
+        OrderedClauses y = told("a -ab -bc -cd -de -ef -f");
+        y.run(40);
+        DUE.same("a deep one", y.clauseOf(y.refutation(), 8), 6);
+        DUE.same("has all of them in its tree, too", y.tree(y.refutation()) & 127, 127);
+    }
+
     private static void tree() {
         OrderedClauses x = told("a -ab -bc d -c");
         x.run(40);
@@ -498,6 +555,7 @@ public final class PromisesTest extends Bench {
         OrderedClauses z = told("a -a b");
         z.run(40);
         DUE.same("the empty clause that came is not told", z.core(), 3);
+        DUE.same("the last of 40 is left out", told(without(3, FORTY_WITH_A) + " -a a b").core(), 3L << 37);
     }
 
     private static void follows() {
@@ -521,6 +579,7 @@ public final class PromisesTest extends Bench {
     private static void share() {
         OrderedClauses x = told("a");
         for (int literals = 0; literals <= 4095; literals++) {
+            x = literals % 500 == 0 ? told("a") : x;
             int fulfilled = 0;
             for (int values = 0; values < 64; values++) {
                 boolean holds = false;
@@ -531,8 +590,9 @@ public final class PromisesTest extends Bench {
             }
             DUE.same("share(" + literals + ")", x.share(literals), Float.floatToIntBits((float) fulfilled / 64));
         }
+        OrderedClauses y = told("a");
         for (int wrong : new int[] {-1, 4096, LEAST, GREATEST}) {
-            refused(x, "share " + wrong, () -> x.share(wrong), INVALID);
+            refused(y, "share " + wrong, () -> y.share(wrong), INVALID);
         }
     }
 
@@ -581,31 +641,44 @@ public final class PromisesTest extends Bench {
     }
 
     private static void undoOfEach() {
+        restored("tell", x -> x.tell(bits("-a")));
+        restored("tell of what holds always", x -> x.tell(bits("a-a")));
+        restored("tell of what has another within", x -> x.tell(bits("ef")));
+        restored("tell of the empty clause", x -> x.tell(0));
+        restored("rank", x -> x.rank(2, 5));
+        restored("set", x -> x.set(9));
+        restored("step", OrderedClauses::step);
+        restored("run", x -> x.run(40));
+        restored("empty", OrderedClauses::empty);
+        restored("play", OrderedClauses::play);
+    }
+
+    /** Undoes one change, and then one with others behind it that use the same numbers again. */
+    private static void restored(String what, Whole.Call change) {
+        List<Long> before = Whole.of(PromisesTest::withResolvents);
+        DUE.holds(what, change.on(withResolvents()) > INVALID);
+        DUE.holds("all behind undo of " + what, before.equals(Whole.of(() -> undone(change))));
+        DUE.holds("all behind four undone of " + what, before.equals(Whole.of(() -> fourUndone(change))));
+    }
+
+    private static OrderedClauses withResolvents() {
         OrderedClauses x = typed(told("ab-c -ac c-d abd e"), "f;-fe;a-a;-ed;-dc;-cb;-ba;");
         x.rank(0, 3);
         x.run(5);
         DUE.holds("there are resolvents", x.count(0) > 5);
-        restored(x, "tell", () -> x.tell(bits("-a")));
-        restored(x, "tell of what holds always", () -> x.tell(bits("a-a")));
-        restored(x, "tell of what has another within", () -> x.tell(bits("ef")));
-        restored(x, "tell of the empty clause", () -> x.tell(0));
-        restored(x, "rank", () -> x.rank(2, 5));
-        restored(x, "set", () -> x.set(9));
-        restored(x, "step", x::step);
-        restored(x, "run", () -> x.run(40));
-        restored(x, "empty", x::empty);
-        restored(x, "play", x::play);
+        return fourStates(x);
     }
 
-    /** Undoes one change, and then one with others behind it that use the same numbers again. */
-    private static void restored(OrderedClauses x, String what, Call change) {
-        fourStates(x);
-        long before = all(x);
-        DUE.holds(what, change.answer() > INVALID);
-        x.undo();
-        fourStates(x);
-        DUE.same("all behind undo of " + what, all(x), before);
-        change.answer();
+    private static OrderedClauses undone(Whole.Call change) {
+        OrderedClauses x = withResolvents();
+        change.on(x);
+        DUE.same("states left", x.undo(), 3);
+        return fourStates(x);
+    }
+
+    private static OrderedClauses fourUndone(Whole.Call change) {
+        OrderedClauses x = withResolvents();
+        change.on(x);
         x.empty();
         x.play();
         x.run(40);
@@ -616,14 +689,14 @@ public final class PromisesTest extends Bench {
         x.empty();
         x.undo();
         x.undo();
-        fourStates(x);
-        DUE.same("all behind four undone of " + what, all(x), before);
+        return fourStates(x);
     }
 
-    private static void fourStates(OrderedClauses x) {
+    private static OrderedClauses fourStates(OrderedClauses x) {
         for (int i = 0; i < 4; i++) {
             x.set(x.count(5));
         }
+        return x;
     }
 
     private static void history() {

@@ -69,43 +69,11 @@ public final class RefusalsTest extends Bench {
         }
     }
 
-    /** Open, done and dropped clauses, resolvents, other ranks and setting, all counts, four states and a text. */
-    private static OrderedClauses bitOfEverything() {
-        OrderedClauses x = told("ab-c -ac c-d abd e");
-        x.rank(0, 3);
-        x.tell(bits("a-a"));
-        x.tell(bits("ef"));
-        x.run(5);
-        x.set(3);
-        x.tell(bits("ab"));
-        return typed(x, "ab;-c-d;");
-    }
-
-    private static OrderedClauses fullStoreAndText() {
-        return typed(full(), "def;".repeat(15));
-    }
-
-    private static OrderedClauses full() {
-        return told(FORTY);
-    }
-
     /** All 40 are done: a has the greatest rank, so that there are no resolvents. */
     private static OrderedClauses fullAndDone() {
         OrderedClauses x = told(FORTY_WITH_A);
         x.rank(0, 5);
         DUE.same("40 steps", x.run(40), 40);
-        return x;
-    }
-
-    private static OrderedClauses fortiethIsEmpty() {
-        OrderedClauses x = told(without(1, FORTY));
-        DUE.same("the empty clause", x.tell(0), 39);
-        return x;
-    }
-
-    private static OrderedClauses refuted() {
-        OrderedClauses x = told("a -a");
-        DUE.same("run", x.run(2), 2);
         return x;
     }
 
