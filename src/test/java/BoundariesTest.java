@@ -124,11 +124,14 @@ public final class BoundariesTest extends Bench {
     private static void countsOver512Calls() {
         DUE.about("so far");
         OrderedClauses x = fortyWithoutResolvents();
-        for (int i = 1; i <= 235; i++) {
+        for (int i = 1; i <= 230; i++) {
             DUE.same("40 steps", x.run(40), 40);
             DUE.same("all are open again", x.rank(0, 5), 5);
         }
-        DUE.same("steps", x.count(4), 9400);
+        DUE.same("steps", x.count(4), 9200);
+        DUE.same("undo of the last rank", x.undo(), 3);
+        DUE.same("undo of the last run", x.undo(), 2);
+        DUE.same("steps", x.count(4), 9160);
         OrderedClauses y = typed(new OrderedClauses(), "a-a;".repeat(15));
         OrderedClauses z = typed(new OrderedClauses(), ";".repeat(60));
         for (int i = 1; i <= 450; i++) {
